@@ -145,7 +145,8 @@ public final class TorusZones {
             throw new IllegalArgumentException("no such place or point");
         }
         act.tell(JOIN, px, py, x, y);
-        return doAct();
+        settle();
+        return now.perform(act);
     }
 
     public int near(int px, int py) throws IllegalArgumentException, IllegalStateException {
@@ -153,48 +154,55 @@ public final class TorusZones {
             throw new IllegalArgumentException("no such place");
         }
         act.tell(JOIN_NEAR, px, py, 0, 0);
-        return doAct();
+        settle();
+        return now.perform(act);
     }
 
     public int go(int node, int how) throws IndexOutOfBoundsException, NoSuchElementException, IllegalStateException {
         checkNode(node);
         checkWhat(how, 3);
         act.tell(LEAVE + how, node, 0, 0, 0);
-        return doAct();
+        settle();
+        return now.perform(act);
     }
 
     public int tidy() throws IllegalStateException {
         act.tell(TIDY, 0, 0, 0, 0);
-        return doAct();
+        settle();
+        return now.perform(act);
     }
 
-    public int put(int key, int value) throws IndexOutOfBoundsException, IllegalArgumentException, IllegalStateException {
+    public int put(int key, int value)
+            throws IndexOutOfBoundsException, IllegalArgumentException, IllegalStateException {
         checkKey(key);
         if (value < 0 || value >= VALUES) {
             throw new IllegalArgumentException("no such value");
         }
         act.tell(PUT, key, value, 0, 0);
-        return doAct();
+        settle();
+        return now.perform(act);
     }
 
     public int cut(int key) throws IndexOutOfBoundsException, IllegalStateException {
         checkKey(key);
         act.tell(CUT, key, 0, 0, 0);
-        return doAct();
+        settle();
+        return now.perform(act);
     }
 
     public int mend() {
         act.tell(MEND, 0, 0, 0, 0);
-        return doAct();
+        settle();
+        return now.perform(act);
     }
 
-    private int doAct() {
+    /** Refuses the act that is told, or remembers what stands ahead of it. */
+    private void settle() {
         refusedBy = now.refusalOf(act);
         if (refusedBy != DONE) {
             throw new IllegalStateException("the act is refused");
         }
         past.keep(now);
-        return now.perform(act);
     }
 
     public int undo() throws IllegalStateException {
@@ -576,21 +584,15 @@ public final class TorusZones {
             if (at >= tape.length) {
                 return false;
             }
-            wrong = !takeWholeAct(act);
-            return !wrong;
-        }
-
-        private boolean takeWholeAct(Act act) {
-            if (acts > 0 && !takeSemicolon()) {
+            wrong = acts > 0 && !takeSemicolon();
+            if (wrong) {
                 return false;
             }
             skipBlanks();
             firstWord = at;
-            if (acts >= ACTS_OF_A_TEXT) {
-                return false;
-            }
+            wrong = acts >= ACTS_OF_A_TEXT || !takeKind(act) || !takeNumbers(act);
             acts++;
-            return takeKind(act) && takeNumbers(act);
+            return !wrong;
         }
 
         private boolean takeKind(Act act) {
@@ -614,15 +616,15 @@ public final class TorusZones {
                 case NET:
                     return takeNumber(act, 0, 1, REALITIES);
                 case LANDMARK:
-                    return takePair(act, 0, PLACES - 1, PLACES - 1);
+                    return takeNumber(act, 0, 0, PLACES - 1) && takeNumber(act, 1, 0, PLACES - 1);
                 case JOIN:
-                    return takePair(act, 0, PLACES - 1, PLACES - 1) && takeAim(act);
+                    return takeNumber(act, 0, 0, PLACES - 1) && takeNumber(act, 1, 0, PLACES - 1) && takeAim(act);
                 case LEAVE:
                 case CRASH:
                 case NOTICE:
                     return takeNumber(act, 0, 0, NODES - 1);
                 case PUT:
-                    return takePair(act, 0, KEYS - 1, VALUES - 1);
+                    return takeNumber(act, 0, 0, KEYS - 1) && takeNumber(act, 1, 0, VALUES - 1);
                 case CUT:
                     return takeNumber(act, 0, 0, KEYS - 1);
                 default:
@@ -635,11 +637,7 @@ public final class TorusZones {
                 act.kind = JOIN_NEAR;
                 return true;
             }
-            return takeWord("at") && takePair(act, 2, SIDE - 1, SIDE - 1);
-        }
-
-        private boolean takePair(Act act, int slot, int mostFirst, int mostSecond) {
-            return takeNumber(act, slot, 0, mostFirst) && takeNumber(act, slot + 1, 0, mostSecond);
+            return takeWord("at") && takeNumber(act, 2, 0, SIDE - 1) && takeNumber(act, 3, 0, SIDE - 1);
         }
 
         private boolean takeNumber(Act act, int slot, int least, int most) {
@@ -753,7 +751,7 @@ public final class TorusZones {
             Arrays.fill(value, NONE);
         }
 
-        /** Spaces that the other does not use are left as they are: only a new net, which clears them, brings them in. */
+        /** Spaces that the other does not use stay as they are: only startAnew, which clears them, brings them in. */
         void copyFrom(Net other) {
             realities = other.realities;
             landmarks = other.landmarks;
@@ -1106,7 +1104,7 @@ public final class TorusZones {
 
     /** The zones of one reality: which node has which. */
     private static final class Space {
-        /** Of each zone number the node that has that zone and 1, together; 0 where nobody has it. Number 0 is nobody's. */
+        /** Of each zone number the node that has it and 1, together; 0 where nobody has it, and of number 0. */
         final int[] owner = new int[ZONE_NUMBERS];
         /** Of each node the cells of its zones, and how many zones these are. */
         final int[] volume = new int[NODES];
@@ -1236,10 +1234,10 @@ public final class TorusZones {
         /** The nodes that have cells side by side with a zone, as bits; maybe also who has it. */
         int besideOf(int zone) {
             int depth = depthOf(zone);
-            int x = leastX(zone, depth);
-            int y = leastY(zone, depth);
             int wide = wide(depth);
             int high = high(depth);
+            int x = leastX(zone, depth);
+            int y = leastY(zone, depth);
             int owners = 0;
             for (int i = 0; i < wide; i++) {
                 owners |= 1 << owner[zoneAt(x + i, y - 1)];
@@ -1358,9 +1356,8 @@ public final class TorusZones {
             }
             int merger = owner[2 * pair] - 1;
             int spared = owner[2 * pair + 1] - 1;
-            // The stray one goes first: else it could be merged away, where the merger had it.
-            give(stray, spared);
             give(2 * pair + 1, merger);
+            give(stray, spared);
         }
 
         /** The deepest zone within a zone, of several the least, whose both halves nodes have. */
