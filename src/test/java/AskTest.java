@@ -9,6 +9,7 @@ public final class AskTest {
         cells();
         realities();
         friends();
+        askedAgain();
         counts();
         wrongNumbers();
         Drive.finish();
@@ -143,6 +144,16 @@ public final class AskTest {
         }
         Drive y = new Drive("friends in one");
         y.does("join", 0, 0, 0, 0).due(0, "friends", 0).does("join", 0, 0, 0, 0).due(2, "friends", 0).due(1, "friends", 1);
+    }
+
+    /** What is asked is as it stands now, whatever was asked before. */
+    private static void askedAgain() {
+        Drive x = new Drive("asked again");
+        x.due(0, "join", 0, 0, 0, 0).due(1, "join", 0, 0, 16, 0).due(2, "join", 0, 0, 0, 16).due(3, "join", 0, 0, 16, 16);
+        x.due(6, "held", 0, 0, 2).due(6, "friends", 0).due(9, "held", 1, 0, 2).due(9, "held", 2, 0, 2).due(6, "held", 3, 0, 2);
+        // Without node 2, 0 has all of 2; without 3, 1 has all of 3.
+        x.due(3, "go", 2, 0).due(10, "held", 0, 0, 2).due(10, "friends", 0).due(0, "held", 2, 0, 2).due(2, "go", 3, 0).due(2, "held", 0, 0, 2);
+        x.due(1, "held", 1, 0, 2).due(0, "held", 3, 0, 2).due(1, "go", 0, 0).due(0, "held", 0, 0, 2).due(0, "held", 1, 0, 2).due(0, "friends", 0);
     }
 
     private static void counts() {

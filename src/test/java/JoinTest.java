@@ -9,7 +9,9 @@ public final class JoinTest {
         refusals();
         wrongNumbers();
         orders();
+        nearerByOne();
         nearPoints();
+        nearPlaces();
         nearRefusals();
         Drive.finish();
     }
@@ -116,6 +118,35 @@ public final class JoinTest {
         // The places do not go round: 99 and 0 are 99 apart.
         Drive w = new Drive("not round");
         w.text(2, "landmark 99 0;landmark 50 0").due(1, "order", 0, 0);
+    }
+
+    /** "by how far they are from the PLACE .. of like ones the lesser number ahead": one step more or less decides. */
+    private static void nearerByOne() {
+        Drive x = new Drive("nearer by one");
+        x.text(2, "landmark 10 0;landmark 21 0").due(0, "order", 15, 0).due(1, "order", 16, 0).due(0, "order", 15, 99).due(1, "order", 16, 99);
+        x.text(3, "net 1;landmark 21 0;landmark 10 0").due(1, "order", 15, 0).due(0, "order", 16, 0);
+        x.text(3, "net 1;landmark 0 10;landmark 0 20").due(0, "order", 0, 14).due(0, "order", 0, 15).due(1, "order", 0, 16);
+        x.text(3, "net 1;landmark 0 20;landmark 0 10").due(1, "order", 0, 14).due(0, "order", 0, 15).due(0, "order", 0, 16);
+        // Of the second and the third one the nearer one goes ahead, and of like ones the second.
+        x.text(4, "net 1;landmark 0 0;landmark 50 10;landmark 50 20").due(3, "order", 40, 14).due(5, "order", 40, 16).due(3, "order", 40, 15);
+        x.text(4, "net 1;landmark 50 50;landmark 50 50;landmark 50 49").due(0, "order", 50, 50).due(4, "order", 50, 49).due(4, "order", 0, 0);
+        x.text(4, "net 1;landmark 50 49;landmark 50 50;landmark 50 49").due(1, "order", 50, 49).due(2, "order", 50, 50).due(1, "order", 0, 0);
+    }
+
+    /** NEAR: the node has the PLACE that was told, and lies by both of its numbers. */
+    private static void nearPlaces() {
+        Drive x = new Drive("near places");
+        x.due(0, "near", 7, 93).due(7, "node", 0, 1).due(93, "node", 0, 2).text(1, "join 94 6 near").due(94, "node", 1, 1).due(6, "node", 1, 2);
+        // By Y alone: who is nearer to the second landmark comes to x 16, whose node is up or dead.
+        for (int dead = 0; dead < 2; dead++) {
+            Drive y = new Drive("near by Y, " + dead + " is dead");
+            y.text(4, "landmark 0 0;landmark 0 99;join 1 1 at 0 0;join 1 1 at 16 0").due(1, "go", dead, 1);
+            if (dead == 0) {
+                y.refused(3, "near", 0, 0).refused(3, "near", 99, 49).due(2, "near", 0, 99);
+            } else {
+                y.refused(3, "near", 0, 99).refused(3, "near", 99, 50).due(2, "near", 0, 0);
+            }
+        }
     }
 
     private static Drive nearAfterOne(String title, int landmarks) {

@@ -6,6 +6,7 @@ public final class KeysTest {
         putAnew();
         cuts();
         mends();
+        mendsFromTheFirstKeyToTheLast();
         risks();
         loads();
         wrongNumbers();
@@ -77,6 +78,32 @@ public final class KeysTest {
         y.due(7, "put", 3, 3).due(2, "join", 0, 0, 20, 17).due(2, "point", 3, 0, 2).due(1, "point", 3, 2, 2);
         y.due(2, "go", 1, 1).due(3, "key", 3, 1).due(1, "go", 2, 1).due(2, "key", 3, 1).due(0, "mend");
         y.due(1, "go", 2, 2).due(1, "mend").due(3, "key", 3, 1).due(1, "go", 1, 2).due(1, "mend").due(7, "key", 3, 1);
+    }
+
+    /** MEND answers for all keys and all realities together; each key is mended from its own copies. */
+    private static void mendsFromTheFirstKeyToTheLast() {
+        Drive x = new Drive("all keys");
+        x.text(2, "net 3;join 0 0 at 0 0");
+        for (int key = 0; key < 100; key++) {
+            x.due(7, "put", key, 999 - key);
+        }
+        x.due(1, "join", 1, 1, 20, 0).due(1, "go", 0, 1).due(0, "mend");
+        int lost = Integer.parseInt(x.call("count", 6));
+        int gone = 0;
+        for (int key = 0; key < 100; key++) {
+            gone += x.call("key", key, 1).equals("0") ? 1 : 0;
+        }
+        x.due(1, "go", 0, 2).due(lost - 3 * gone, "mend").due(3 * gone, "count", 6).due(100 - gone, "count", 5).due(0, "mend");
+        if (gone == 0 || gone == 100 || lost == 3 * gone) {
+            x.fail("some keys are gone, and some are to be mended");
+        }
+        // Node 1 has the point of the key in reality 0 alone.
+        for (String run : new String[] {"0 at 10 0", "99 at 20 0"}) {
+            int key = Integer.parseInt(run.substring(0, run.indexOf(' ')));
+            Drive y = new Drive("key " + key);
+            y.text(4, "net 2;join 0 0 at 0 0;put " + key + " 1;join 1 1 " + run.substring(run.indexOf(' '))).due(1, "point", key, 0, 2);
+            y.due(0, "point", key, 1, 2).due(1, "go", 1, 1).due(2, "key", key, 1).due(1, "go", 1, 2).due(1, "mend").due(3, "key", key, 1);
+        }
     }
 
     private static void risks() {

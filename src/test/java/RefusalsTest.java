@@ -11,6 +11,7 @@ public final class RefusalsTest {
         depthTenInAnotherReality();
         deadNodesZone();
         deadNodesZoneInOneReality();
+        deadNodesZoneByY();
         allAreDead();
         orderOfJoinRefusals();
         notUp();
@@ -155,6 +156,23 @@ public final class RefusalsTest {
         Drive y = new Drive("in none of the others");
         other.accept(y);
         y.due(2, "join", 3, 3, 25, 0).due(0, "why");
+    }
+
+    /** By y as by x: node 2 has the dead zones 4, 4 and 6. */
+    private static void deadNodesZoneByY() {
+        Consumer<Drive> quarter = x -> {
+            x.text(4, "net 3;join 1 1 at 0 0;join 2 2 at 0 0;join 3 3 at 0 0").due(2, "go", 2, 1);
+            x.due(4, "zone", 2, 0, 0).due(4, "zone", 2, 1, 0).due(6, "zone", 2, 2, 0);
+        };
+        byCall("3 by y in reality 0", quarter, 3, "join", 0, 0, 10, 15);
+        byCall("3 by y in reality 1", quarter, 3, "join", 0, 0, 21, 8);
+        byCall("3 by y, going round, in reality 1", quarter, 3, "join", 0, 0, 21, 25);
+        byCall("3 by y, going round, in reality 2", quarter, 3, "join", 0, 0, 26, 18);
+        for (int[] point : new int[][] {{10, 16}, {21, 9}, {21, 24}, {26, 17}}) {
+            Drive x = new Drive("one further it stands");
+            quarter.accept(x);
+            x.due(3, "join", 0, 0, point[0], point[1]).due(0, "why");
+        }
     }
 
     /** Without nodes that are up, but with dead ones, nobody can come; without any it has ZONE 1. */

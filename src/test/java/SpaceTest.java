@@ -11,6 +11,7 @@ public final class SpaceTest {
         halfWayRound();
         acrossXThenAcrossY();
         depthZeroToTen();
+        everyCoordinate();
         oneZoneForEachCell();
         mergedUpToAll();
         notMergedIfNotHalves();
@@ -181,6 +182,27 @@ public final class SpaceTest {
             x.due(32 - (32 >> (depth + 1) / 2), "box", (2 << depth) - 1, 1).due(32 - (32 >> depth / 2), "box", (2 << depth) - 1, 2);
         }
         x.argument("box", 0, 0).argument("box", 2048, 0).due(10, "box", 2047, 0).due(0, "box", 1, 0);
+    }
+
+    /** Each x and each y down to its single cell, whose number is found by halving across x and y in turn. */
+    private static void everyCoordinate() {
+        for (int one = 0; one < 32; one++) {
+            singleCell(one, one * 5 % 32);
+            singleCell(one * 11 % 32, one);
+        }
+    }
+
+    private static void singleCell(int x, int y) {
+        int zone = 1;
+        for (int size = 16; size >= 1; size /= 2) {
+            zone = 2 * zone + x / size % 2;
+            zone = 2 * zone + y / size % 2;
+        }
+        Drive drive = new Drive("single cell " + x + " " + y);
+        drive.text(12, "net 1" + (";join 0 0 at " + x + " " + y).repeat(10) + ";leave 0").due(zone / 2, "cell", 0, x, y, 0);
+        drive.due(0, "join", 0, 0, x, y).due(zone, "zone", 0, 0, 0).due(1, "held", 0, 0, 1).due(zone, "cell", 0, x, y, 0);
+        drive.due(zone ^ 1, "cell", 0, x, y ^ 1, 0).due(x, "box", zone, 1).due(y, "box", zone, 2).due(1, "box", zone, 3).due(1, "box", zone, 4);
+        drive.due(0, "cell", 0, x, y, 1).due(9, "cell", 0, x, y ^ 1, 1);
     }
 
     /** "each cell is in just one ZONE that some NODE has", also behind comings and goings. */
