@@ -11,6 +11,8 @@ public final class HandTest {
         pairOfSingleCells();
         nodeZeroHasTheLesserHalf();
         nodeZeroHasTheGreaterHalf();
+        pairInTheVeryLastZone();
+        pairsElsewhereAreDeeper();
         onePairAfterAnother();
         Drive.finish();
     }
@@ -25,6 +27,10 @@ public final class HandTest {
         x.due(1, "zone", 1, 0, 0).due(-1, "zone", 1, 0, 1).due(1, "reality", 0, 0).due(0, "reality", 0, 4);
         // Halved again, the zones are new ones, and nothing of the old ones is left.
         x.due(0, "join", 0, 0, 31, 0).due(3, "zone", 0, 0, 0).due(2, "zone", 1, 0, 0).due(-1, "zone", 1, 0, 1).due(0, "cell", 0, 16, 16, 1);
+        // The same with the greater half: node 3 gets 5 to its 4.
+        Drive y = GoTest.quarters("halves are gone, the greater one handed");
+        y.due(3, "go", 2, 1).due(2, "go", 1, 0).due(2, "zone", 3, 0, 0).due(-1, "zone", 3, 0, 1).due(1, "go", 0, 0);
+        y.due(2, "zone", 3, 0, 0).due(6, "zone", 3, 0, 1).due(-1, "zone", 3, 0, 2).due(1, "go", 2, 2).due(1, "zone", 3, 0, 0);
     }
 
     /** "its ZONES, by numbers, rising, are HANDED": the first takes who has the least, and has more for the second. */
@@ -134,6 +140,25 @@ public final class HandTest {
         Drive x = oneScattered("node 0 has 2q + 1");
         x.due(0, "join", 0, 0, 8, 0).due(9, "zone", 0, 0, 0).due(8, "zone", 2, 0, 0).due(1, "tidy");
         x.due(5, "zone", 0, 0, 0).due(3, "zone", 1, 0, 0).due(4, "zone", 2, 0, 0).due(3, "reality", 0, 0);
+    }
+
+    /** "of all ZONES q inside that other half": also where it is the last one by numbers, 7. */
+    private static void pairInTheVeryLastZone() {
+        Drive x = new Drive("the very last zone");
+        x.due(0, "join", 0, 0, 8, 0).due(1, "join", 0, 0, 20, 12).due(2, "join", 0, 0, 20, 24).due(2, "go", 0, 0).due(0, "join", 0, 0, 16, 16);
+        x.due(2, "zone", 1, 0, 0).due(6, "zone", 1, 0, 1).due(14, "zone", 0, 0, 0).due(15, "zone", 2, 0, 0).due(1, "tidy");
+        x.due(7, "zone", 0, 0, 0).due(2, "zone", 1, 0, 0).due(6, "zone", 2, 0, 0).due(-1, "zone", 1, 0, 1);
+    }
+
+    /** Pairs that are deeper, but not inside that other half, stay as they are. */
+    private static void pairsElsewhereAreDeeper() {
+        Drive x = new Drive("pairs elsewhere");
+        x.text(6, "join 0 0 at 0 0;join 0 0 at 31 31;join 0 0 at 31 31;join 0 0 at 0 31;join 0 0 at 31 0;join 0 0 at 0 31").due(1, "heir", 0, 0, 0);
+        x.due(5, "go", 0, 0).due(4, "zone", 1, 0, 0).due(12, "zone", 1, 0, 1).due(0, "join", 0, 0, 31, 0).due(6, "join", 0, 0, 16, 16);
+        x.due(7, "join", 0, 0, 16, 16).due(8, "join", 0, 0, 16, 16).due(26, "zone", 0, 0, 0).due(27, "zone", 4, 0, 0);
+        // 13 is the pair inside; 28, whose halves are 56 and 57, is deeper, but inside 7.
+        x.due(56, "zone", 8, 0, 0).due(57, "zone", 7, 0, 0).due(1, "tidy").due(13, "zone", 0, 0, 0).due(12, "zone", 4, 0, 0);
+        x.due(4, "zone", 1, 0, 0).due(1, "held", 1, 0, 0).due(56, "zone", 8, 0, 0).due(57, "zone", 7, 0, 0).due(0, "reality", 0, 4);
     }
 
     /** "as long as some NODE has more than one ZONE"; both are done, and "MERGED each time", ahead of the next one. */

@@ -7,6 +7,7 @@ public final class KeysTest {
         cuts();
         mends();
         mendsFromTheFirstKeyToTheLast();
+        lostStaysLost();
         risks();
         loads();
         wrongNumbers();
@@ -104,6 +105,16 @@ public final class KeysTest {
             y.text(4, "net 2;join 0 0 at 0 0;put " + key + " 1;join 1 1 " + run.substring(run.indexOf(' '))).due(1, "point", key, 0, 2);
             y.due(0, "point", key, 1, 2).due(1, "go", 1, 1).due(2, "key", key, 1).due(1, "go", 1, 2).due(1, "mend").due(3, "key", key, 1);
         }
+    }
+
+    /** What was lost stays lost until it is mended or put anew, whoever has its point then. */
+    private static void lostStaysLost() {
+        Drive x = new Drive("lost stays lost");
+        x.text(3, "join 0 0 at 0 0;join 0 0 at 20 0;join 0 0 at 20 20").due(1, "put", 8, 1).due(1, "put", 3, 2).due(1, "put", 0, 3);
+        x.due(1, "point", 8, 0, 2).due(2, "point", 3, 0, 2).due(2, "go", 1, 1).due(1, "go", 2, 1).due(0, "key", 8, 1).due(0, "key", 3, 1);
+        x.due(1, "go", 1, 2).due(0, "key", 8, 1).due(1, "go", 2, 2).due(0, "key", 8, 1).due(0, "key", 3, 1).due(2, "count", 6).due(0, "mend");
+        x.due(1, "join", 0, 0, 20, 0).due(0, "key", 8, 1).due(0, "tidy").due(1, "go", 1, 0).due(0, "key", 8, 1).due(2, "count", 6);
+        x.due(1, "put", 8, 4).due(1, "key", 8, 1).due(1, "count", 6).due(1, "key", 0, 1);
     }
 
     private static void risks() {

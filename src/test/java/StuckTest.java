@@ -10,6 +10,7 @@ public final class StuckTest {
         lostCopiesAreNotSought();
         endsAtTheFirstPoint();
         lesserRealityThenNode();
+        leastOfAllItsRealities();
         asFarAsItGoes();
         stretches();
         worstAndAll();
@@ -108,6 +109,16 @@ public final class StuckTest {
         // In one reality both are as far: the lesser node goes ahead.
         Drive y = GoTest.quarters("then node");
         y.due(1, "put", 3, 1).due(20, "point", 3, 0, 0).due(17, "point", 3, 0, 1).due(14, "seek", 3, 3, 1);
+    }
+
+    /** "FAR of a NODE being the least to POINTS of its copies": who is nearer in one reality alone than it is itself there is not nearer. */
+    private static void leastOfAllItsRealities() {
+        Drive x = new Drive("least of all its realities");
+        x.text(9, "net 2;join 0 0 at 8 16;join 0 9 at 12 8;put 23 1;join 0 0 at 24 8;join 0 0 at 12 0;crash 3;join 4 6 at 8 16;crash 0");
+        // In reality 0 node 1 has 10 and 4 has 11, 15 and 16 far from (24, 9); in reality 1 15 and 14, 15 and 14 far from (8, 10).
+        x.due(10, "zone", 1, 0, 0).due(15, "zone", 1, 1, 0).due(11, "zone", 4, 0, 0).due(14, "zone", 4, 1, 0).due(3, "key", 23, 1);
+        x.due(-1, "seek", 1, 23, 0).due(4, "seek", 1, 23, 2).due(7, "seek", 1, 23, 1).due(-1, "seek", 4, 23, 0).due(4, "seek", 4, 23, 2);
+        x.due(0, "seek", 4, 23, 1).due(0, "seek", 2, 23, 0);
     }
 
     /** "(1 to 4: as far as it goes)". */
